@@ -1,0 +1,115 @@
+/** Makes every call on a speaker and on the reference, and compares the answers. */
+final class Both {
+    private final Check check;
+    private final CachedSpeaker x = new CachedSpeaker();
+    private final Reference r = new Reference();
+
+    Both(Check check) {
+        this.check = check;
+    }
+
+    private static long outcome(Check.Call call) {
+        try {
+            return call.answer();
+        } catch (IllegalStateException e) {
+            return 3000000001L;
+        } catch (IllegalArgumentException e) {
+            return 3000000002L;
+        }
+    }
+
+    private static long bit(boolean b) {
+        return b ? 1 : 0;
+    }
+
+    boolean put(int i, long row) {
+        boolean due = r.put(i, row);
+        check.same("put(" + i + ", " + row + ")", x.put(i, row), due);
+        return due;
+    }
+
+    void fill(int i, int n, int seed) {
+        check.same("fill(" + i + ", " + n + ", " + seed + ")", x.fill(i, n, seed), r.fill(i, n, seed));
+    }
+
+    void size(int n) {
+        check.same("size(" + n + ")", x.size(n), r.size(n));
+    }
+
+    int load() {
+        int due = r.load();
+        check.same("load()", x.load(), due);
+        return due;
+    }
+
+    void type(int s) {
+        check.same("type(" + s + ")", x.type(s), r.type(s));
+    }
+
+    void erase() {
+        x.erase();
+        r.erase();
+    }
+
+    int tokens() {
+        int due = r.tokens();
+        check.same("tokens()", x.tokens(), due);
+        return due;
+    }
+
+    void token(int i) {
+        check.same("token(" + i + ")", x.token(i), r.token(i));
+    }
+
+    void spell(int t, int i) {
+        check.same("spell(" + t + ", " + i + ")", x.spell(t, i), r.spell(t, i));
+    }
+
+    void begin() {
+        check.same("begin()", outcome(x::begin), outcome(r::begin));
+    }
+
+    void next() {
+        check.same("next()", outcome(x::next), outcome(r::next));
+    }
+
+    void go(int n) {
+        check.same("go(" + n + ")", outcome(() -> x.go(n)), outcome(() -> r.go(n)));
+    }
+
+    void output(int i) {
+        check.same("output(" + i + ")", x.output(i), r.output(i));
+    }
+
+    int taken() {
+        int due = r.taken();
+        check.same("taken()", x.taken(), due);
+        return due;
+    }
+
+    boolean running() {
+        boolean due = r.running();
+        check.same("running()", bit(x.running()), bit(due));
+        return due;
+    }
+
+    void sum(int t) {
+        check.same("sum(" + t + ")", x.sum(t), r.sum(t));
+    }
+
+    void kept(int layer, int position, int what, int i) {
+        check.same("kept(" + layer + ", " + position + ", " + what + ", " + i + ")",
+            x.kept(layer, position, what, i), r.kept(layer, position, what, i));
+    }
+
+    void write(byte[] bytes) {
+        for (int at = 0; at < bytes.length; at += 8) {
+            long row = 0;
+            for (int k = 7; k >= 0; k--) {
+                row = row << 8 | (at + k < bytes.length ? bytes[at + k] & 255 : 0);
+            }
+            put(at, row);
+        }
+        size(bytes.length);
+    }
+}
