@@ -379,14 +379,15 @@ public final class CachedSpeaker {
         }
 
         int upOf(int layer) {
-            return secondOf(layer) + width;
+            return downOf(layer) - inner * width;
         }
 
+        /** DOWN ends where its layer ends. */
         int downOf(int layer) {
-            return upOf(layer) + inner * width;
+            return firstOf(layer) + layerBytes - width * inner;
         }
 
-        void place(int t, int p, int[] into) {
+        void addMeaningAndPlace(int t, int p, int[] into) {
             for (int i = 0; i < width; i++) {
                 into[i] = bytes[meanings + t * width + i] + bytes[places + p * width + i];
             }
@@ -537,7 +538,7 @@ public final class CachedSpeaker {
         }
 
         private void takeIn(int t) {
-            model.place(t, positions, x);
+            model.addMeaningAndPlace(t, positions, x);
             for (int layer = 0; layer < model.layers; layer++) {
                 attend(layer);
                 mix(layer);
@@ -580,13 +581,14 @@ public final class CachedSpeaker {
             }
         }
 
+        /** The shift is the FLOOR by 16. */
         private int score(int layer, int j, int from) {
             int[] key = keys[keptRow(layer, j)];
             int total = 0;
             for (int i = from; i < from + model.headWidth; i++) {
                 total += ask[i] * key[i];
             }
-            return Whole.floor(total, 16);
+            return total >> 4;
         }
 
         private void blendValues(int layer, int from) {

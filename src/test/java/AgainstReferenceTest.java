@@ -120,21 +120,18 @@ public final class AgainstReferenceTest {
         return random.nextInt(8) == 0 ? ODD_NUMBERS[random.nextInt(ODD_NUMBERS.length)] : random.nextInt(below);
     }
 
-    /** A good image with one or two of its first bytes, or its length, made another. */
+    /** A good image with up to two bytes of its beginning and pairs made others, at many lengths. */
     private static void brokenImage(Check check, Random random) {
         Both both = new Both(check);
         byte[] image = image(random);
+        int pairsEnd = 9 + 2 * image[6];
         for (int k = random.nextInt(3); k > 0; k--) {
-            int at = random.nextInt(9 + 2 * image[6] + 1);
+            int at = random.nextInt(pairsEnd);
             image[at] = (byte) (random.nextBoolean() ? random.nextInt(256) : image[at] + random.nextInt(5) - 2);
-            if (image[6] < 0 || image[6] > 8) {
-                break;
-            }
         }
         both.write(image);
-        both.load();
-        for (int length : new int[] {0, 8, 9, 10, 9 + 2 * Math.max(0, image[6] & 15) - 1, 9 + 2 * (image[6] & 15),
-            image.length - 1, image.length + 1, image.length}) {
+        int[] lengths = {0, 8, 9, 10, pairsEnd - 1, pairsEnd, image.length - 1, image.length + 1, image.length};
+        for (int length : lengths) {
             both.size(length);
             both.load();
             both.tokens();

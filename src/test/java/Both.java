@@ -18,14 +18,8 @@ final class Both {
         }
     }
 
-    private static long bit(boolean b) {
-        return b ? 1 : 0;
-    }
-
-    boolean put(int i, long row) {
-        boolean due = r.put(i, row);
-        check.same("put(" + i + ", " + row + ")", x.put(i, row), due);
-        return due;
+    void put(int i, long row) {
+        check.same("put(" + i + ", " + row + ")", x.put(i, row), r.put(i, row));
     }
 
     void fill(int i, int n, int seed) {
@@ -36,10 +30,8 @@ final class Both {
         check.same("size(" + n + ")", x.size(n), r.size(n));
     }
 
-    int load() {
-        int due = r.load();
-        check.same("load()", x.load(), due);
-        return due;
+    void load() {
+        check.same("load()", x.load(), r.load());
     }
 
     void type(int s) {
@@ -81,15 +73,13 @@ final class Both {
         check.same("output(" + i + ")", x.output(i), r.output(i));
     }
 
-    int taken() {
-        int due = r.taken();
-        check.same("taken()", x.taken(), due);
-        return due;
+    void taken() {
+        check.same("taken()", x.taken(), r.taken());
     }
 
     boolean running() {
         boolean due = r.running();
-        check.same("running()", bit(x.running()), bit(due));
+        check.same("running()", x.running(), due);
         return due;
     }
 
@@ -104,11 +94,7 @@ final class Both {
 
     void write(byte[] bytes) {
         for (int at = 0; at < bytes.length; at += 8) {
-            long row = 0;
-            for (int k = 7; k >= 0; k--) {
-                row = row << 8 | (at + k < bytes.length ? bytes[at + k] & 255 : 0);
-            }
-            put(at, row);
+            put(at, Draft.eight(bytes, at));
         }
         size(bytes.length);
     }

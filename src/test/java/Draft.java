@@ -91,14 +91,19 @@ final class Draft {
         }
     }
 
+    /** Eight bytes as put takes them, the first one lowest; behind the end they are 0. */
+    static long eight(byte[] bytes, int at) {
+        long row = 0;
+        for (int k = 7; k >= 0; k--) {
+            row = row << 8 | (at + k < bytes.length ? bytes[at + k] & 255 : 0);
+        }
+        return row;
+    }
+
     /** Writes the bytes into the image of a speaker; those behind them up to a multiple of 8 become 0. */
     static void write(CachedSpeaker x, byte[] bytes) {
         for (int at = 0; at < bytes.length; at += 8) {
-            long row = 0;
-            for (int k = 7; k >= 0; k--) {
-                row = row << 8 | (at + k < bytes.length ? bytes[at + k] & 255 : 0);
-            }
-            if (!x.put(at, row)) {
+            if (!x.put(at, eight(bytes, at))) {
                 throw new AssertionError("put was refused at " + at);
             }
         }

@@ -108,10 +108,6 @@ public final class PromiseTest {
         x.put(0, 77);
         x.put(1492, 1);
         same("load() after put alone", x.load(), -11);
-
-        // The last byte that put reaches is 1499, and bytes behind the length are kept.
-        same("put(1492, ..)", x.put(1492, 0x4D00000000000000L), true);
-        same("put(1493, ..)", x.put(1493, 0), false);
     }
 
     private static void fill() {
