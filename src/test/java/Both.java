@@ -8,16 +8,6 @@ final class Both {
         this.check = check;
     }
 
-    private static long outcome(Check.Call call) {
-        try {
-            return call.answer();
-        } catch (IllegalStateException e) {
-            return 3000000001L;
-        } catch (IllegalArgumentException e) {
-            return 3000000002L;
-        }
-    }
-
     void put(int i, long row) {
         check.same("put(" + i + ", " + row + ")", x.put(i, row), r.put(i, row));
     }
@@ -58,15 +48,15 @@ final class Both {
     }
 
     void begin() {
-        check.same("begin()", outcome(x::begin), outcome(r::begin));
+        check.same("begin()", Check.outcome(x::begin), Check.outcome(r::begin));
     }
 
     void next() {
-        check.same("next()", outcome(x::next), outcome(r::next));
+        check.same("next()", Check.outcome(x::next), Check.outcome(r::next));
     }
 
     void go(int n) {
-        check.same("go(" + n + ")", outcome(() -> x.go(n)), outcome(() -> r.go(n)));
+        check.same("go(" + n + ")", Check.outcome(() -> x.go(n)), Check.outcome(() -> r.go(n)));
     }
 
     void output(int i) {

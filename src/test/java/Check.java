@@ -4,6 +4,10 @@ final class Check {
         long answer();
     }
 
+    /** What outcome tells of an exception: no answer of the face is as great. */
+    static final long STATE = 3000000001L;
+    static final long ARGUMENT = 3000000002L;
+
     private final String test;
     private String part = "";
     private int checked;
@@ -11,6 +15,17 @@ final class Check {
 
     Check(String test) {
         this.test = test;
+    }
+
+    /** The answer, or which of the two exceptions was thrown. */
+    static long outcome(Call call) {
+        try {
+            return call.answer();
+        } catch (IllegalStateException e) {
+            return STATE;
+        } catch (IllegalArgumentException e) {
+            return ARGUMENT;
+        }
     }
 
     void part(String name) {

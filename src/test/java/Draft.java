@@ -87,6 +87,9 @@ final class Draft {
 
     private static void add(java.io.ByteArrayOutputStream out, int... row) {
         for (int number : row) {
+            if (number < -128 || number > 127) {
+                throw new AssertionError(number + " is no byte");
+            }
             out.write(number);
         }
     }
