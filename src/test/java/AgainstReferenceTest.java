@@ -13,6 +13,10 @@ public final class AgainstReferenceTest {
             check.part("whole runs, seed " + seed);
             wholeRun(check, new Random(seed));
         }
+        for (int seed = 0; seed < 500; seed++) {
+            check.part("numbers by fill, seed " + seed);
+            filledRun(check, new Random(5555 + seed));
+        }
         for (int seed = 0; seed < 3000; seed++) {
             check.part("mixed calls, seed " + seed);
             mixedCalls(check, new Random(7777 + seed));
@@ -27,8 +31,23 @@ public final class AgainstReferenceTest {
     /** A model, a prompt, and all that can be asked about the run after every step. */
     private static void wholeRun(Check check, Random random) {
         Both both = new Both(check);
+        both.write(image(random));
+        runOf(both, random);
+    }
+
+    /** The numbers of the model are not written but filled in, in two parts. */
+    private static void filledRun(Check check, Random random) {
+        Both both = new Both(check);
         byte[] image = image(random);
         both.write(image);
+        int from = 9 + 2 * image[6];
+        int middle = from + 1 + random.nextInt(image.length - from - 1);
+        both.fill(from, middle - from, random.nextInt());
+        both.fill(middle, image.length - middle, random.nextInt());
+        runOf(both, random);
+    }
+
+    private static void runOf(Both both, Random random) {
         both.load();
         int symbols = 1 + random.nextInt(10);
         int few = 1 + random.nextInt(8);

@@ -107,6 +107,16 @@ public final class RefusedTest {
         STATES.put("a run without room", () -> begun(4, neverOfFour, 2));
         STATES.put("a run that CONTEXT ended", () -> begun(4, neverOfFour, 3));
         STATES.put("a run that STOP ended", () -> begun(8, first, 1));
+        STATES.put("a run that CONTEXT ended and an empty prompt", () -> {
+            CachedSpeaker x = begun(4, neverOfFour, 3);
+            x.erase();
+            return x;
+        });
+        STATES.put("a run that STOP ended and a prompt of more tokens than CONTEXT", () -> {
+            CachedSpeaker x = begun(8, first, 1);
+            Draft.type(x, 4, 5, 4, 5, 4, 5, 4, 5);
+            return x;
+        });
         STATES.put("a run and an empty prompt", () -> {
             CachedSpeaker x = begun(8, never, 1);
             x.erase();
