@@ -2,7 +2,8 @@ import java.util.Arrays;
 
 /**
  * FLOOR, CLAMP, ROOT, NORM, TIMES, FADE and BEND at the ends of what they take, each seen through the
- * face: a kept number, or a sum, is made to be the number itself. All due numbers are worked out by hand.
+ * face: a kept number, or a sum, is made to be the number itself. The due numbers are worked out by hand,
+ * or where a whole range is gone through, by a formula that stands beside it.
  */
 public final class NumberEdgesTest {
     private static final Check CHECK = new Check("NumberEdgesTest");
